@@ -888,8 +888,11 @@ public final class AnyLength {
     private static final class Agreement {
         private static final int STATES = POINTS * SPOTS * SPOTS;
         private static final int MET = 1, LIVE = 2;
-        /** From a live state both write a row by fewer than STATES words and an end: these make up for no longer lead. */
-        private static final int LONGEST_LEAD = LONGEST_WORD * STATES;
+        /**
+         * No longer lead is made up for. Where none stops alone, a point and a spot of one program tell whether
+         * both write: fewer words than there are such pairs, and an end, lead from a live state to a row.
+         */
+        private static final int LONGEST_LEAD = LONGEST_WORD * POINTS * SPOTS;
         private static final int PER_INT = 16;
         private static final int LEAD_INTS = (LONGEST_LEAD + PER_INT - 1) / PER_INT;
         private static final int NO_LEAD_YET = 1 << 20;

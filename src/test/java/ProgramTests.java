@@ -201,6 +201,8 @@ public final class ProgramTests {
         due("met of two", x.met(2, 0, 1, 2), 2);
         due("place 0 of two", x.place(2, 0, 1, 2, 0), 0);
         due("place 1 of two", x.place(2, 0, 1, 2, 1), 217);
+        due("place 1 of another claim", x.place(0, 2, -1, 2, 1), 1);
+        due("place 1 of two again", x.place(2, 0, 1, 2, 1), 217);
         due("place 2 of two", x.place(2, 0, 1, 2, 2), NONE);
         // Halved first: the spot of the first one is 36, the second one stands still in spot 0.
         due("met", x.met(0, 1, 0, 1), 2);

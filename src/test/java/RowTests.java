@@ -16,6 +16,8 @@ public final class RowTests {
         agree();
         agreeByLeads();
         agreeOnlyWhereRowsAreWritten();
+        agreeByEachWay();
+        agreeByLongLead();
         follows();
         rows();
         lay();
@@ -214,6 +216,61 @@ public final class RowTests {
         x.end(1, 1, 0);
         due("both write there", x.agree(0, 0, 1), 0);
         due("rows without a 1", x.agree(1, 0, 1), 1);
+    }
+
+    /** Two ways to the same state, of like length, by other letters: only the second one is wrong. */
+    private static void agreeByEachWay() {
+        AnyLength x = new AnyLength();
+        for (int c = 0; c < 2; c++) {
+            x.spot(0, 0, c, 1, 1 + c);
+            x.spot(1, 0, c, 1, 0);
+            for (int p = 0; p < 2; p++) {
+                x.spot(p, 1, c, 2, 0);
+                x.spot(p, 2, c, 2, 0);
+                x.end(p, 2, STOPS);
+            }
+        }
+        x.end(1, 1, 1);
+        due("the second way is wrong", x.agree(0, 0, 1), 0);
+        due("the second way is wrong, turned", x.agree(0, 1, 0), 0);
+        x.make(1, 4, 1);
+        due("only the first way", x.agree(1, 0, 1), 1);
+        x.spot(0, 0, 1, 1, 1);
+        due("both ways are right", x.agree(0, 0, 1), 1);
+        x.spot(0, 0, 1, 1, 5);
+        due("the second way is longer", x.agree(0, 0, 1), 0);
+    }
+
+    /**
+     * Just one row is so and is written: 0 four times and a 1, four times over, then 0 four times.
+     * The sentence counts each 0, both programs count each 1. One writes 20 letters ahead of the third 1,
+     * the other one all of them behind it.
+     */
+    private static void agreeByLongLead() {
+        AnyLength x = new AnyLength();
+        for (int i = 0; i < 6; i++) {
+            x.point(0, i, 0, Math.min(i + 1, 5));
+            x.point(0, i, 1, i == 4 ? 0 : 5);
+            x.holds(0, i, i == 4);
+            for (int c = 0; c < 2; c++) {
+                int next = c == 0 ? i : Math.min(i + 1, 5);
+                x.spot(0, i, c, next, i < 2 ? 1 : i > 2 ? 0 : c == 0 ? 5 : 6);
+                x.spot(1, i, c, next, i < 3 ? 0 : 5);
+            }
+            x.end(0, i, i == 4 ? 0 : STOPS);
+            x.end(1, i, i == 4 ? 6 : STOPS);
+        }
+        due("20 letters ahead", x.agree(0, 0, 1), 1);
+        due("20 letters behind", x.agree(0, 1, 0), 1);
+        x.end(1, 4, 5);
+        due("another last letter", x.agree(0, 0, 1), 0);
+        due("another last letter, turned", x.agree(0, 1, 0), 0);
+        x.end(1, 4, 1);
+        due("one letter less", x.agree(0, 0, 1), 0);
+        x.end(1, 4, STOPS);
+        due("one stops", x.agree(0, 0, 1), 0);
+        x.end(0, 4, STOPS);
+        due("both stop", x.agree(0, 0, 1), 1);
     }
 
     private static void follows() {

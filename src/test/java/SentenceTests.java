@@ -29,6 +29,7 @@ public final class SentenceTests {
         due(when + " count(0)", x.count(0), k);
         due(when + " count(1)", x.count(1), 0);
         due(when + " count(2)", x.count(2), 0);
+        for (int place = 0; place < 1296; place++) due(when + " sheet " + place, x.sheet(place, false), 0);
         for (int s = 0; s < 8; s++) {
             for (int p = 0; p < 6; p++) {
                 for (int c = 0; c < k; c++) due(when + " about " + s + p + c, x.about(s, p, c), 0);
