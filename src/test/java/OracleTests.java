@@ -9,9 +9,7 @@ import java.util.Set;
 import java.util.TreeSet;
 
 /** Questions about sentences and programs made by chance (by a fixed seed), asked of a plain second model too. */
-public final class OracleTests {
-    private static final int NONE = -9, STOPS = -1;
-    private static int wrong = 0;
+public final class OracleTests extends Checks {
     private static final Map<String, Integer> seen = new HashMap<>();
 
     private final Random chance;
@@ -44,19 +42,9 @@ public final class OracleTests {
         System.out.println(new java.util.TreeMap<>(seen));
         for (String kind : List.of("agree 0", "agree 1", "claim 0", "claim 1", "stays 0", "stays 1", "check 0",
                 "check 1", "check 2", "check 3", "follows 0", "follows 1", "both full", "both fits", "lead 1")) {
-            if (seen.getOrDefault(kind, 0) < 20) {
-                wrong++;
-                System.out.println("too few cases: " + kind);
-            }
+            if (seen.getOrDefault(kind, 0) < 20) tellWrong("too few cases: " + kind);
         }
-        System.out.println(wrong == 0 ? "oracle: as due" : "oracle: " + wrong + " wrong");
-        if (wrong != 0) System.exit(1);
-    }
-
-    private static void due(String call, long got, long want) {
-        if (got == want) return;
-        wrong++;
-        if (wrong < 50) System.out.println(call + " answered " + got + ", due is " + want);
+        finish("oracle");
     }
 
     private static void note(String kind) {

@@ -1,14 +1,5 @@
 /** Promises 9 to 18: programs, claims, places and sheets. */
-public final class ProgramTests {
-    private static final int UNKNOWN = -1, BAD = -2, NONE = -9, STOPS = -1;
-    private static int wrong = 0;
-
-    private static void due(String call, long got, long want) {
-        if (got == want) return;
-        wrong++;
-        System.out.println(call + " answered " + got + ", due is " + want);
-    }
-
+public final class ProgramTests extends Checks {
     public static void main(String[] args) {
         spot();
         words();
@@ -23,8 +14,7 @@ public final class ProgramTests {
         write();
         check();
         secondSpotIsNotMoved();
-        System.out.println(wrong == 0 ? "programs and claims: as due" : "programs and claims: " + wrong + " wrong");
-        if (wrong != 0) System.exit(1);
+        finish("programs and claims");
     }
 
     private static void spot() {

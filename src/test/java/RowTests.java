@@ -1,14 +1,5 @@
 /** Promises 19 to 33: letters that stay, programs that agree, sentences that follow, the row. */
-public final class RowTests {
-    private static final int UNKNOWN = -1, BAD = -2, STATE = -3, FULL = -4, NONE = -9, STOPS = -1;
-    private static int wrong = 0;
-
-    private static void due(String call, long got, long want) {
-        if (got == want) return;
-        wrong++;
-        System.out.println(call + " answered " + got + ", due is " + want);
-    }
-
+public final class RowTests extends Checks {
     public static void main(String[] args) {
         constants();
         stays();
@@ -26,8 +17,7 @@ public final class RowTests {
         run();
         rounds();
         count();
-        System.out.println(wrong == 0 ? "rows: as due" : "rows: " + wrong + " wrong");
-        if (wrong != 0) System.exit(1);
+        finish("rows");
     }
 
     private static void constants() {
@@ -36,17 +26,6 @@ public final class RowTests {
         due("STATE", AnyLength.STATE, STATE);
         due("FULL", AnyLength.FULL, FULL);
         due("NONE", AnyLength.NONE, NONE);
-    }
-
-    private static void tell(AnyLength x, int... letters) {
-        x.clear();
-        for (int c : letters) x.letter(c);
-    }
-
-    private static void dueRow(String what, AnyLength x, int... letters) {
-        due(what + ": length", x.count(2), letters.length);
-        for (int i = 0; i < letters.length; i++) due(what + ": letter " + i, x.at(i), letters[i]);
-        due(what + ": behind", x.at(letters.length), NONE);
     }
 
     private static void stays() {
@@ -411,7 +390,7 @@ public final class RowTests {
         AnyLength x = new AnyLength();
         x.spot(0, 0, 0, 0, 9);
         x.spot(0, 0, 1, 1, 0);
-        stayIn(x, 0, 1, 2);
+        stayIn(x, 0, 1);
         x.end(0, 0, 5);
         x.end(0, 1, 2);
         tell(x, 0, 0, 1, 1, 0);
@@ -441,11 +420,6 @@ public final class RowTests {
         due("one too many by the end", x.run(3), FULL);
     }
 
-    /** In a spot all letters are written as they are, and it is not left. */
-    private static void stayIn(AnyLength x, int program, int spot, int k) {
-        for (int c = 0; c < k; c++) x.spot(program, spot, c, spot, 1 + c);
-    }
-
     private static void rounds() {
         AnyLength x = new AnyLength();
         tell(x, 0, 1);
@@ -454,7 +428,7 @@ public final class RowTests {
         due("of none at once", x.rounds(0), 0);
         // Each time the first 0 is dropped.
         x.spot(1, 0, 0, 1, 0);
-        stayIn(x, 1, 1, 2);
+        stayIn(x, 1, 1);
         tell(x, 0, 1, 0, 1, 0, 1);
         due("three times", x.rounds(1), 3);
         dueRow("the row is not changed", x, 0, 1, 0, 1, 0, 1);
@@ -478,7 +452,7 @@ public final class RowTests {
         AnyLength x = new AnyLength();
         x.letters(4);
         for (int c = 0; c < 3; c++) x.spot(0, 0, c, 1, 2 + c);
-        stayIn(x, 0, 1, 4);
+        stayIn(x, 0, 1);
         for (int i = 0; i < 19; i++) x.letter(0);
         x.letter(1);
         due("59: the sixtieth time it writes what it reads", x.rounds(0), 59);
@@ -494,7 +468,7 @@ public final class RowTests {
     private static void stopsLater() {
         AnyLength x = new AnyLength();
         x.spot(0, 0, 0, 1, 2);
-        stayIn(x, 0, 1, 2);
+        stayIn(x, 0, 1);
         tell(x, 0, 1, 0);
         due("two times", x.rounds(0), 2);
         x.end(0, 0, STOPS);

@@ -16,7 +16,7 @@ import java.util.regex.Matcher;
 import java.util.regex.Pattern;
 
 /** The face, the rules that can be seen in the text, what a run makes, and calls with any arguments. */
-public final class RuleTests {
+public final class RuleTests extends Checks {
     private static final Path SOURCE = Path.of("src/main/java/AnyLength.java");
     private static final String[] FACE = {
         "int letters(int)", "int point(int,int,int,int)", "int holds(int,int,boolean)", "int make(int,int,int)",
@@ -28,12 +28,9 @@ public final class RuleTests {
         "int unless(int,int,int)", "long rows(int,int)", "int lay(int,int,long)", "long rank(int)",
         "int letter(int)", "int clear()", "int at(int)", "int is(int)", "int run(int)", "int rounds(int)",
         "int count(int)"};
-    private static int wrong = 0;
 
     private static void check(String what, boolean is) {
-        if (is) return;
-        wrong++;
-        if (wrong < 50) System.out.println("not so: " + what);
+        if (!is) tellWrong("not so: " + what);
     }
 
     public static void main(String[] args) throws Exception {
@@ -41,8 +38,7 @@ public final class RuleTests {
         text();
         whatARunMakes();
         for (long seed = 1; seed <= 300; seed++) anyCalls(seed);
-        System.out.println(wrong == 0 ? "rules: as due" : "rules: " + wrong + " wrong");
-        if (wrong != 0) System.exit(1);
+        finish("rules");
     }
 
     // ---- the face

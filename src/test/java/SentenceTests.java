@@ -1,14 +1,5 @@
 /** Promises 1 to 8: a new object, letters and sentences. */
-public final class SentenceTests {
-    private static final int UNKNOWN = -1, BAD = -2, FULL = -4;
-    private static int wrong = 0;
-
-    private static void due(String call, long got, long want) {
-        if (got == want) return;
-        wrong++;
-        System.out.println(call + " answered " + got + ", due is " + want);
-    }
-
+public final class SentenceTests extends Checks {
     public static void main(String[] args) {
         newObject();
         letters();
@@ -20,8 +11,7 @@ public final class SentenceTests {
         not();
         both();
         about();
-        System.out.println(wrong == 0 ? "sentences: as due" : "sentences: " + wrong + " wrong");
-        if (wrong != 0) System.exit(1);
+        finish("sentences");
     }
 
     /** All sentences, programs, the sheet and the row as at first. */
