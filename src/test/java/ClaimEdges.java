@@ -164,6 +164,25 @@ final class ClaimEdges extends Edges {
         due("true", x.claim(0, 0, 1, 1), 1);
     }
 
+    /** Of all 1296 places only the last is bad, and it is met last: its end alone is written as a 1. */
+    @Says("It is TRUE, or there is a PICTURE: the shortest ROW for which it is not so,")
+    static void thePlaceThatIsMetLastMayBeTheOnlyBadOne() {
+        AnyLength x = fourParts();
+        for (int i = 0; i < 6; i++) {
+            x.holds(0, i, i == 5);
+            x.end(0, i, i == 5 ? 2 : 1);
+            x.spot(1, i, 1, i, i == 5 ? 2 : 1);
+            x.point(1, i, 0, 1);
+            x.point(1, i, 1, i == 5 ? 0 : 1);
+        }
+        x.holds(1, 0, false);
+        due("met", x.met(0, 0, 1, 1), 1296);
+        due("claim", x.claim(0, 0, 1, 1), 0);
+        duePicture("five of each", x, claim(0, 0, 1, 1), 0, 0, 0, 0, 0, 1, 1, 1, 1, 1, 2, 2, 2, 2, 2, 3, 3, 3, 3, 3);
+        x.write(0, 0, 1, 1);
+        due("it is in the sheet and bad", x.check(0, 0, 1, 1), 3);
+    }
+
     // ---- terms: places
 
     @Says({"PLACES of a CLAIM: a POINT of the SENTENCE ahead, a SPOT of each PROGRAM (of one: the second 0),",
@@ -503,6 +522,8 @@ final class ClaimEdges extends Edges {
         AnyLength x = fourParts();
         due("all", x.write(0, 0, 1, 1), 1296);
         due("count of all", x.count(1), 1296);
+        due("the last is in it", x.sheet(1295, true), 1);
+        due("the first is in it", x.sheet(0, true), 1);
         due("one", x.write(2, 2, -1, 2), 1);
         due("count of one", x.count(1), 1);
         x.end(2, 0, STOPS);
@@ -530,6 +551,18 @@ final class ClaimEdges extends Edges {
         x.spot(1, 5, 3, 5, 4);
         x.point(1, 4, 3, 5);
         due("only the last is not in it, and 1294 leads there", x.check(0, 0, 1, 1), 2);
+    }
+
+    @Says(promise = 18, value = "What fails first of THE SHEET for a CLAIM: 0 .. 3.")
+    static void checkOfTheLastPlaceAlone() {
+        AnyLength x = new AnyLength();
+        x.sheet(0, true);
+        x.sheet(1295, true);
+        due("it leads to 0", x.check(0, 0, 0, 1), 0);
+        x.holds(1, 5, false);
+        due("it is bad", x.check(0, 0, 0, 1), 3);
+        x.point(0, 5, 1, 1);
+        due("it leads out", x.check(0, 0, 0, 1), 2);
     }
 
     @Says(promise = 18, value = "What fails first of THE SHEET for a CLAIM: 0 .. 3.")

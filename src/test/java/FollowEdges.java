@@ -154,6 +154,18 @@ final class FollowEdges extends Edges {
         due("by six, of 20", x.rows(3, 20), 0);
     }
 
+    @Says(promise = 24, value = "HOW MANY ROWS of a length ARE SO.")
+    static void rowsThatEndAtTheLastPoint() {
+        AnyLength x = new AnyLength();
+        makeRest(x, 7, 6, 5);
+        due("of 5", x.rows(7, 5), 32);
+        due("of 17", x.rows(7, 17), 131072);
+        due("of 6", x.rows(7, 6), 0);
+        due("of 0", x.rows(7, 0), 0);
+        x.holds(7, 5, false);
+        due("of 5, none", x.rows(7, 5), 0);
+    }
+
     @Says(promise = 24, value = "UNKNOWN;")
     static void rowsRefusesWhatIsNotThere() {
         refusesBeyond(UNKNOWN, "rows", given(7, 20), range(0, 7), fixed());

@@ -284,13 +284,6 @@ public final class ProgramTests extends Checks {
         due("one more that leads into it", x.check(2, 0, 1, 2), 0);
         x.sheet(216, true);
         due("one more that is bad", x.check(2, 0, 1, 2), 3);
-        AnyLength y = new AnyLength();
-        for (int p = 0; p < 1296; p++) y.sheet(p, true);
-        due("all are in it", y.check(0, 0, 1, 0), 0);
-        y.holds(0, 5, false);
-        due("one that is never met is bad", y.check(0, 0, 1, 0), 3);
-        due("the claim is true all the same", y.claim(0, 0, 1, 0), 1);
-        due("the check writes nothing", y.count(1), 1296);
     }
 
     /** Of one program the second spot stays what the sheet says, and its end is not looked at. */

@@ -333,20 +333,11 @@ public final class RowTests extends Checks {
     }
 
     private static void rank() {
-        AnyLength x = new AnyLength();
-        x.letters(3);
-        x.make(1, 7, 0);
-        x.make(2, 3, 2);
-        due("of none", x.rank(1), 0);
         for (int sentence = 0; sentence < 3; sentence++) {
-            for (int length = 0; length <= 6; length++) {
-                for (long i = 0; i < x.rows(sentence, length); i++) {
-                    x.lay(sentence, length, i);
-                    due("rank of " + sentence + " " + length, x.rank(sentence), i);
-                    due("is of " + sentence + " " + length, x.is(sentence), 1);
-                }
-            }
+            for (int length = 0; length <= 4; length++) rankOfEach(sentence, length);
         }
+        AnyLength x = threeSentences();
+        due("of none", x.rank(1), 0);
         tell(x, 1, 1);
         due("not so", x.rank(1), STATE);
         due("sentence 8", x.rank(8), UNKNOWN);
@@ -359,6 +350,23 @@ public final class RowTests extends Checks {
         due("of 21, not so: what is told first", x.rank(2), STATE);
         x.letter(2);
         due("of 22", x.rank(2), FULL);
+    }
+
+    private static AnyLength threeSentences() {
+        AnyLength x = ofLetters(3);
+        x.make(1, 7, 0);
+        x.make(2, 3, 2);
+        return x;
+    }
+
+    private static void rankOfEach(int sentence, int length) {
+        AnyLength x = threeSentences();
+        long rows = x.rows(sentence, length);
+        for (long i = 0; i < rows; i++) {
+            x.lay(sentence, length, i);
+            due("rank of " + sentence + " " + length, x.rank(sentence), i);
+            due("is of " + sentence + " " + length, x.is(sentence), 1);
+        }
     }
 
     private static void row() {

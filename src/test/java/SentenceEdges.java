@@ -529,6 +529,19 @@ final class SentenceEdges extends Edges {
         due("rows of three", x.rows(7, 3), 0);
     }
 
+    @Says(promise = 7, value = "A SENTENCE that IS SO just for ROWS for which another one and a third one are:")
+    static void bothHoldAtTheLastPoints() {
+        AnyLength x = new AnyLength();
+        makeRest(x, 0, 6, 5);
+        makeRest(x, 1, 3, 2);
+        due("six", x.both(2, 0, 1), 6);
+        due("six, the other way round", x.both(3, 1, 0), 6);
+        for (int s = 2; s <= 3; s++) {
+            dueSo(x, s, 1, "00000", "11111111111");
+            dueSo(x, s, 0, "", "00", "0000", "000000", "00000000");
+        }
+    }
+
     @Says(promise = 7, value = "UNKNOWN;")
     static void bothRefusesWhatIsNotThere() {
         refusesBeyond(UNKNOWN, "both", given(7, 7, 7), range(0, 7), range(0, 7), range(0, 7));

@@ -19,21 +19,13 @@ public final class SentenceTests extends Checks {
         due(when + " count(0)", x.count(0), k);
         due(when + " count(1)", x.count(1), 0);
         due(when + " count(2)", x.count(2), 0);
-        for (int place = 0; place < 1296; place++) due(when + " sheet " + place, x.sheet(place, false), 0);
         for (int s = 0; s < 8; s++) {
-            for (int p = 0; p < 6; p++) {
-                for (int c = 0; c < k; c++) due(when + " about " + s + p + c, x.about(s, p, c), 0);
-                due(when + " about " + s + p + "k", x.about(s, p, k), 1);
-            }
+            for (int p = 0; p < 6; p++) due(when + " about " + s + p, x.about(s, p, k - 1), 0);
+            for (int p = 0; p < 6; p++) due(when + " holds " + s + p, x.about(s, p, k), 1);
         }
-        for (int s = 0; s < 4; s++) {
-            for (int p = 0; p < 6; p++) {
-                for (int c = 0; c < k; c++) {
-                    due(when + " of next " + s + p + c, x.of(s, p, c, 0), 0);
-                    due(when + " of word " + s + p + c, x.of(s, p, c, 1), 1 + c);
-                }
-                due(when + " of end " + s + p, x.of(s, p, k, 1), 0);
-            }
+        for (int q = 0; q < 4; q++) {
+            for (int p = 0; p < 6; p++) due(when + " of word " + q + p, x.of(q, p, k - 1, 1), k);
+            for (int p = 0; p < 6; p++) due(when + " of end " + q + p, x.of(q, p, k, 1), 0);
         }
     }
 
@@ -143,22 +135,26 @@ public final class SentenceTests extends Checks {
         }
     }
 
-    private static void makeOne(int k, int kind, int a) {
-        String what = "k " + k + " make(5, " + kind + ", " + a + ")";
-        AnyLength x = new AnyLength();
-        x.letters(k);
+    private static AnyLength made(int k, int kind, int a) {
+        AnyLength x = ofLetters(k);
         for (int p = 0; p < 6; p++) {
             x.holds(5, p, false);
             for (int c = 0; c < k; c++) x.point(5, p, c, 5 - p);
         }
+        due("k " + k + " make(5, " + kind + ", " + a + ")", x.make(5, kind, a), fewestPoints(kind, a, k));
+        return x;
+    }
+
+    private static void makeOne(int k, int kind, int a) {
+        String what = "k " + k + " make(5, " + kind + ", " + a + ")";
+        AnyLength x = made(k, kind, a);
         int points = fewestPoints(kind, a, k);
-        due(what, x.make(5, kind, a), points);
         for (int p = points; p < 6; p++) {
             for (int c = 0; c < k; c++) due(what + " beyond", x.about(5, p, c), 0);
             due(what + " beyond", x.about(5, p, k), 1);
         }
         dueMetInOrder(what, x, k, points);
-        for (int length = 0; length <= 7; length++) dueRows(what, x, k, kind, a, length);
+        for (int length = 0; length <= (k == 2 ? 7 : 5); length++) dueRows(what, k, kind, a, length);
     }
 
     private static void dueMetInOrder(String what, AnyLength x, int k, int points) {
@@ -173,11 +169,11 @@ public final class SentenceTests extends Checks {
         due(what + " meets", known, points);
     }
 
-    private static void dueRows(String what, AnyLength x, int k, int kind, int a, int length) {
+    private static void dueRows(String what, int k, int kind, int a, int length) {
         int[] row = new int[length];
         do {
-            x.clear();
-            for (int c : row) x.letter(c);
+            AnyLength x = made(k, kind, a);
+            tell(x, row);
             due(what + " " + java.util.Arrays.toString(row), x.is(5), isSo(kind, a, row) ? 1 : 0);
         } while (nextRow(row, k));
     }

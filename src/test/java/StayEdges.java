@@ -175,33 +175,138 @@ final class StayEdges extends Edges {
         due("rows with a 1", x.agree(1, 0, 1), 1);
     }
 
+    /** Points 0 .. 4 and then, by a 1, 0 again; all else leads to 5, where none is so. */
+    private static void makeFives(AnyLength x) {
+        for (int p = 0; p < 6; p++) {
+            for (int c = 0; c < x.count(0); c++) x.point(0, p, c, 5);
+            x.holds(0, p, p == 0);
+        }
+        for (int p = 0; p < 4; p++) x.point(0, p, 0, p + 1);
+        x.point(0, 4, 1, 0);
+    }
+
     /** One writes 30 letters in its first three rounds of five, the other one in the last three. */
     @Says("or both the same.")
     static void oneMayBeThirtyLettersAhead() {
-        AnyLength x = new AnyLength();
-        for (int p = 0; p < 6; p++) {
-            x.point(0, p, 0, Math.min(p + 1, 5));
-            x.point(0, p, 1, p == 4 ? 0 : 5);
-            x.holds(0, p, p == 0);
-        }
+        AnyLength x = ofLetters(4);
+        makeFives(x);
         for (int s = 0; s < 6; s++) {
             for (int c = 0; c < 2; c++) {
                 int next = c == 0 ? s : (s + 1) % 6;
-                x.spot(0, s, c, next, s < 3 ? 6 - c : 0);
-                x.spot(1, s, c, next, s < 3 ? 0 : 6 - c);
+                int word = 5 + (s % 3 * 7 + c * 11 + 3) % 16;
+                x.spot(0, s, c, next, s < 3 ? word : 0);
+                x.spot(1, s, c, next, s < 3 ? 0 : word);
             }
             for (int q = 0; q < 2; q++) x.end(q, s, s == 0 ? 0 : STOPS);
         }
+        int last = x.of(1, 5, 1, 1);
         due("30 ahead", x.agree(0, 0, 1), 1);
         due("30 behind", x.agree(0, 1, 0), 1);
-        x.spot(1, 5, 1, 0, 6);
+        x.spot(1, 5, 1, 0, last == 20 ? 19 : last + 1);
         due("the last letter differs", x.agree(0, 0, 1), 0);
-        x.spot(1, 5, 1, 0, 1);
+        x.spot(1, 5, 1, 0, 1 + (last - 5) / 4);
         due("one letter is lost", x.agree(0, 0, 1), 0);
-        x.spot(1, 5, 1, 0, 5);
+        x.spot(1, 5, 1, 0, last);
         due("as it was", x.agree(0, 0, 1), 1);
         for (int q = 0; q < 2; q++) x.end(q, 3, 0);
         due("both write where one is ahead", x.agree(0, 0, 1), 0);
+    }
+
+    /**
+     * A way up and down of 25 steps, five points by five spots: 0 and 1 lead up, 2 and 3 down. One writes two
+     * letters at each step up, the other one at each step down; a row is written where both are at the foot.
+     */
+    @Says("or both the same.")
+    static void oneMayBe48LettersAhead() {
+        AnyLength x = ofLetters(4);
+        makeFives(x);
+        for (int p = 1; p < 5; p++) x.point(0, p, 2, p - 1);
+        x.point(0, 0, 3, 4);
+        for (int s = 0; s < 6; s++) {
+            for (int c = 0; c < 4; c++) {
+                int by = c == 1 ? 1 : c == 3 ? -1 : 0;
+                int next = s == 5 || s + by < 0 ? 5 : s + by;
+                x.spot(0, s, c, next, c < 2 ? 20 : 0);
+                x.spot(1, s, c, next, c < 2 ? 0 : 20);
+            }
+            for (int q = 0; q < 2; q++) x.end(q, s, s == 0 ? 0 : STOPS);
+        }
+        due("48 ahead", x.agree(0, 0, 1), 1);
+        due("48 behind", x.agree(0, 1, 0), 1);
+        x.spot(1, 4, 2, 4, 19);
+        due("another letter on the way down", x.agree(0, 0, 1), 0);
+        x.spot(1, 4, 2, 4, 20);
+        x.end(0, 4, 0);
+        x.end(1, 4, 0);
+        due("both write high above the foot", x.agree(0, 0, 1), 0);
+    }
+
+    /** A 0 and a 1 lead to the same spots; there one is two letters ahead, and all but the end is lost. */
+    @Says("or both the same.")
+    static void eachWayToASpotHasToBringTheSame() {
+        AnyLength x = ofLetters(4);
+        for (int q = 0; q < 2; q++) {
+            for (int c = 0; c < 4; c++) {
+                x.spot(q, 0, c, c < 2 ? 1 : 2, q == 0 && c < 2 ? 5 + 4 * 2 + 1 : 0);
+                x.spot(q, 1, c, 2, 0);
+                x.spot(q, 2, c, 2, 0);
+            }
+            x.end(q, 2, STOPS);
+        }
+        x.end(1, 1, 5 + 4 * 2 + 1);
+        due("both bring 21", x.agree(0, 0, 1), 1);
+        int[] others = {5 + 4 * 3 + 1, 5 + 4 * 2 + 2, 5 + 4 + 2, 3, 2, 0};
+        for (int word : others) {
+            x.spot(0, 0, 1, 1, word);
+            due("a 1 brings word " + word, x.agree(0, 0, 1), 0);
+            due("a 1 brings word " + word + ", turned", x.agree(0, 1, 0), 0);
+        }
+    }
+
+    /** Letter 0 moves the point, 1 the first spot, 2 the other spot: 216 places where the three are together. */
+    @Says("Two PROGRAMS AGREE by a SENTENCE, if for each ROW that IS SO")
+    static void allPointsAndSpotsMayBeMet() {
+        AnyLength x = ofLetters(3);
+        for (int i = 0; i < 6; i++) {
+            int next = (i + 1) % 6;
+            for (int c = 0; c < 3; c++) {
+                x.point(0, i, c, c == 0 ? next : i);
+                x.spot(0, i, c, c == 1 ? next : i, 1 + c);
+                x.spot(1, i, c, c == 2 ? next : i, 1 + c);
+            }
+            x.holds(0, i, i == 5);
+        }
+        due("the same", x.agree(0, 0, 1), 1);
+        x.end(1, 5, 1);
+        due("another end of the last spot", x.agree(0, 0, 1), 0);
+        x.end(2, 5, STOPS);
+        due("asked of others behind it: a spot to which no row leads does not count", x.agree(1, 2, 3), 1);
+        x.end(2, 0, 1);
+        due("asked of others that differ", x.agree(1, 2, 3), 0);
+    }
+
+    /** What was found for one question leaves nothing behind for the next one. */
+    @Says(promise = 21, value = "Whether two PROGRAMS AGREE: 1, 0.")
+    static void eachQuestionIsAskedAnew() {
+        AnyLength x = ofLetters(4);
+        for (int c = 0; c < 4; c++) {
+            x.spot(0, 0, c, 1, 20);
+            x.spot(1, 0, c, 1, 0);
+            for (int q = 0; q < 2; q++) x.spot(q, 1, c, 1, 4);
+        }
+        x.end(1, 1, 20);
+        due("33 ahead", x.agree(0, 0, 1), 1);
+        for (int word : new int[] {5, 10, 15, 20, 5}) {
+            int one = (word - 5) % 4 + 1;
+            for (int c = 0; c < 4; c++) {
+                x.spot(0, 0, c, 1, word);
+                for (int q = 0; q < 2; q++) x.spot(q, 1, c, 1, one);
+            }
+            x.end(1, 1, word);
+            due("word " + word + " ahead", x.agree(0, 0, 1), 1);
+            x.end(1, 1, word == 20 ? 5 : 20);
+            due("word " + word + " ahead, another end", x.agree(0, 0, 1), 0);
+        }
     }
 
     /** The lead grows by two at each letter, and no end makes up for it. */
