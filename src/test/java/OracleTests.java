@@ -10,10 +10,12 @@ import java.util.TreeSet;
 
 /** Questions about sentences and programs made by chance (by a fixed seed), asked of a plain second model too. */
 public final class OracleTests extends Checks {
+    private static final int MOST_CALLS = 512, RUNS = 5;
     private static final Map<String, Integer> seen = new HashMap<>();
 
     private final Random chance;
-    private final AnyLength x = new AnyLength();
+    private AnyLength object = new AnyLength();
+    private int asked = 0;
     private final int k;
     private final int[][][] next = new int[8][6][4];
     private final boolean[][] holds = new boolean[8][6];
@@ -27,7 +29,7 @@ public final class OracleTests extends Checks {
         chance = new Random(seed);
         k = 2 + (int) (seed % 3);
         longest = k == 2 ? 8 : k == 3 ? 5 : 4;
-        x.letters(k);
+        x().letters(k);
         for (int length = 0; length <= longest; length++) addRows(new int[length]);
         for (boolean[] h : holds) Arrays.fill(h, true);
         for (int[][] p : word) for (int[] s : p) for (int c = 0; c < 4; c++) s[c] = 1 + c;
@@ -45,6 +47,39 @@ public final class OracleTests extends Checks {
             if (seen.getOrDefault(kind, 0) < 20) tellWrong("too few cases: " + kind);
         }
         finish("oracle");
+    }
+
+    // ---- no object is asked more often than is promised
+
+    /** The object, for one call; in its place a new one in which sentences and programs are the same. */
+    private AnyLength x() {
+        room(1);
+        asked++;
+        return object;
+    }
+
+    /** Ahead of calls that need the row or the sheet of those ahead of them. */
+    private void room(int calls) {
+        if (asked + calls > MOST_CALLS) renew();
+        if (asked + calls > MOST_CALLS) tellWrong("no room for " + calls + " calls");
+    }
+
+    private void renew() {
+        object = new AnyLength();
+        asked = 0;
+        x().letters(k);
+        for (int s = 0; s < 8; s++) {
+            for (int p = 0; p < 6; p++) {
+                if (!holds[s][p]) x().holds(s, p, false);
+                for (int c = 0; c < k; c++) if (next[s][p][c] != 0) x().point(s, p, c, next[s][p][c]);
+            }
+        }
+        for (int p = 0; p < 4; p++) {
+            for (int s = 0; s < 6; s++) {
+                if (end[p][s] != 0) x().end(p, s, end[p][s]);
+                for (int c = 0; c < k; c++) x().spot(p, s, c, to[p][s][c], word[p][s][c]);
+            }
+        }
     }
 
     private static void note(String kind) {
@@ -73,12 +108,12 @@ public final class OracleTests extends Checks {
     }
 
     private void setHolds(int s, int p, boolean is) {
-        due("holds", x.holds(s, p, is), holds[s][p] ? 1 : 0);
+        due("holds", x().holds(s, p, is), holds[s][p] ? 1 : 0);
         holds[s][p] = is;
     }
 
     private void setPoint(int s, int p, int c, int n) {
-        due("point", x.point(s, p, c, n), next[s][p][c]);
+        due("point", x().point(s, p, c, n), next[s][p][c]);
         next[s][p][c] = n;
     }
 
@@ -102,13 +137,13 @@ public final class OracleTests extends Checks {
     }
 
     private void setSpot(int p, int s, int c, int n, int w) {
-        due("spot", x.spot(p, s, c, n, w), word[p][s][c]);
+        due("spot", x().spot(p, s, c, n, w), word[p][s][c]);
         to[p][s][c] = n;
         word[p][s][c] = w;
     }
 
     private void setEnd(int p, int s, int w) {
-        due("end", x.end(p, s, w), end[p][s]);
+        due("end", x().end(p, s, w), end[p][s]);
         end[p][s] = w;
     }
 
@@ -226,9 +261,9 @@ public final class OracleTests extends Checks {
 
     private void claim(String at, int a, int p, int q, int b) {
         String what = at + "claim " + a + " " + p + " " + q + " " + b;
-        int is = x.claim(a, p, q, b);
+        int is = x().claim(a, p, q, b);
         note("claim " + is);
-        int length = x.picture(a, p, q, b, -1);
+        int length = x().picture(a, p, q, b, -1);
         due(what + " and picture", length == NONE ? 1 : 0, is);
         int[] first = null;
         for (int[] row : rows) {
@@ -238,10 +273,10 @@ public final class OracleTests extends Checks {
         else if (length != NONE && length <= longest) due(what + " length", length, NONE);
         if (length != NONE) {
             int[] row = new int[length];
-            for (int i = 0; i < length; i++) row[i] = x.picture(a, p, q, b, i);
+            for (int i = 0; i < length; i++) row[i] = x().picture(a, p, q, b, i);
             if (!claimFails(a, p, q, b, row)) due(what + " picture", 0, 1);
             if (first != null && !Arrays.equals(first, row)) due(what + " first by letters", 0, 1);
-            due(what + " behind", x.picture(a, p, q, b, length), NONE);
+            due(what + " behind", x().picture(a, p, q, b, length), NONE);
         }
         places(what, a, p, q, b, is == 1);
     }
@@ -285,24 +320,25 @@ public final class OracleTests extends Checks {
             if (!met.add(place)) continue;
             for (int c = 0; c < k; c++) open.add(step(place, c, a, p, q, b));
         }
-        due(what + " met", x.met(a, p, q, b), met.size());
+        due(what + " met", x().met(a, p, q, b), met.size());
         int i = 0;
-        for (int place : met) due(what + " place " + i, x.place(a, p, q, b, i++), place);
-        due(what + " place behind", x.place(a, p, q, b, i), NONE);
-        due(what + " write", x.write(a, p, q, b), met.size());
-        due(what + " check of what is met", x.check(a, p, q, b), isTrue ? 0 : 3);
+        for (int place : met) due(what + " place " + i, x().place(a, p, q, b, i++), place);
+        due(what + " place behind", x().place(a, p, q, b, i), NONE);
+        room(8);
+        due(what + " write", x().write(a, p, q, b), met.size());
+        due(what + " check of what is met", x().check(a, p, q, b), isTrue ? 0 : 3);
         note("check " + (isTrue ? 0 : 3));
         Set<Integer> sheet = new TreeSet<>(met);
         for (int n = 0; n < 2; n++) {
             int place = n == 0 ? chance.nextInt(1296) : met.first() + chance.nextInt(met.last() + 1);
             boolean is = chance.nextBoolean();
-            due(what + " sheet", x.sheet(place, is), sheet.contains(place) ? 1 : 0);
+            due(what + " sheet", x().sheet(place, is), sheet.contains(place) ? 1 : 0);
             if (is) sheet.add(place);
             else sheet.remove(place);
             int fault = fault(sheet, a, p, q, b);
             note("check " + fault);
-            due(what + " check", x.check(a, p, q, b), fault);
-            due(what + " count", x.count(1), sheet.size());
+            due(what + " check", x().check(a, p, q, b), fault);
+            due(what + " count", x().count(1), sheet.size());
         }
     }
 
@@ -334,8 +370,8 @@ public final class OracleTests extends Checks {
             now = then;
         }
         String what = at + "witness " + s + " " + p + " " + letter;
-        due(what, x.witness(s, p, letter), found);
-        due(what + " stays", x.stays(s, p, letter), found == NONE ? 1 : 0);
+        due(what, x().witness(s, p, letter), found);
+        due(what + " stays", x().stays(s, p, letter), found == NONE ? 1 : 0);
         note("stays " + (found == NONE ? 1 : 0));
         int byRows = NONE;
         for (int[] row : rows) {
@@ -354,7 +390,7 @@ public final class OracleTests extends Checks {
 
     private void agree(String at, int s, int p, int q) {
         String what = at + "agree " + s + " " + p + " " + q;
-        int is = x.agree(s, p, q);
+        int is = x().agree(s, p, q);
         note("agree " + is);
         for (int[] row : rows) {
             if (isSo(s, row) && !Arrays.equals(written(p, row), written(q, row))) {
@@ -418,19 +454,19 @@ public final class OracleTests extends Checks {
 
     private void follows(String at, int f, int s) {
         String what = at + "follows " + f + " " + s;
-        int is = x.follows(f, s);
+        int is = x().follows(f, s);
         note("follows " + is);
-        int length = x.unless(f, s, -1);
+        int length = x().unless(f, s, -1);
         due(what + " and unless", length == NONE ? 1 : 0, is);
         for (int[] row : rows) {
             if (!isSo(f, row) || isSo(s, row)) continue;
             due(what + " length", length, row.length);
-            for (int i = 0; i < row.length; i++) due(what + " letter " + i, x.unless(f, s, i), row[i]);
-            due(what + " behind", x.unless(f, s, row.length), NONE);
+            for (int i = 0; i < row.length; i++) due(what + " letter " + i, x().unless(f, s, i), row[i]);
+            due(what + " behind", x().unless(f, s, row.length), NONE);
             return;
         }
         if (length != NONE && length <= longest) due(what + " length", length, NONE);
-        for (int i = 0; i < length; i++) if (x.unless(f, s, i) < 0) due(what + " letter", 0, 1);
+        for (int i = 0; i < length; i++) if (x().unless(f, s, i) < 0) due(what + " letter", 0, 1);
     }
 
     private void rowsAndPlaces(String at, int s, int length) {
@@ -439,19 +475,21 @@ public final class OracleTests extends Checks {
         for (int[] row : rows) {
             if (row.length != length || !isSo(s, row)) continue;
             if (chance.nextInt(8) == 0) {
-                due(what + " lay", x.lay(s, length, place), length == 0 ? NONE : row[0]);
-                for (int i = 0; i < length; i++) due(what + " lay at " + i, x.at(i), row[i]);
-                due(what + " rank", x.rank(s), place);
+                room(2 + length);
+                due(what + " lay", x().lay(s, length, place), length == 0 ? NONE : row[0]);
+                for (int i = 0; i < length; i++) due(what + " lay at " + i, x().at(i), row[i]);
+                due(what + " rank", x().rank(s), place);
             }
             place++;
         }
-        due(what, x.rows(s, length), place);
-        due(what + " beyond", x.lay(s, length, place), -2);
+        due(what, x().rows(s, length), place);
+        due(what + " beyond", x().lay(s, length, place), -2);
     }
 
     private void runs(String at, int p) {
         int[] row = rows.get(chance.nextInt(rows.size()));
         String what = at + "run " + p + " " + Arrays.toString(row);
+        room(2 + 2 * row.length + RUNS * (3 + 24));
         tell(row);
         int[] w = row;
         int rounds = NONE;
@@ -464,28 +502,30 @@ public final class OracleTests extends Checks {
             }
             w = then;
         }
-        due(what + " rounds", x.rounds(p), rounds);
-        for (int i = 0; i < row.length; i++) due(what + " not changed", x.at(i), row[i]);
-        for (int time = 0; time < 5; time++) {
+        due(what + " rounds", x().rounds(p), rounds);
+        for (int i = 0; i < row.length; i++) due(what + " not changed", x().at(i), row[i]);
+        for (int time = 0; time < RUNS; time++) {
             int[] then = written(p, row);
             int want = then == null ? -3 : then.length > 24 ? -4 : then.length;
-            due(what + " time " + time, x.run(p), want);
+            due(what + " time " + time, x().run(p), want);
             if (want >= 0) row = then;
-            due(what + " length", x.count(2), row.length);
-            for (int i = 0; i < row.length; i++) due(what + " letter " + i, x.at(i), row[i]);
+            due(what + " length", x().count(2), row.length);
+            for (int i = 0; i < row.length; i++) due(what + " letter " + i, x().at(i), row[i]);
             int s = chance.nextInt(8);
-            due(what + " is", x.is(s), isSo(s, row) ? 1 : 0);
+            due(what + " is", x().is(s), isSo(s, row) ? 1 : 0);
         }
     }
 
     private void tell(int[] row) {
-        x.clear();
-        for (int c : row) x.letter(c);
+        x().clear();
+        for (int c : row) x().letter(c);
     }
 
     private void bothAndNot(String at) {
         int s = chance.nextInt(8), o = chance.nextInt(8), t = chance.nextInt(8);
         String what = at + "both " + s + " " + o + " " + t;
+        // The model is changed ahead of the calls, so one object has to do for all of this.
+        room(2 + 4 * 6 * (k + 1));
         List<Integer> pairs = new ArrayList<>(List.of(0));
         for (int i = 0; i < pairs.size(); i++) {
             for (int c = 0; c < k; c++) {
@@ -506,7 +546,7 @@ public final class OracleTests extends Checks {
             holds[s] = h;
         }
         note(pairs.size() <= 6 ? "both fits" : "both full");
-        due(what, x.both(s, o, t), pairs.size() <= 6 ? pairs.size() : -4);
+        due(what, x().both(s, o, t), pairs.size() <= 6 ? pairs.size() : -4);
         dueSentence(what, s);
         int m = chance.nextInt(8);
         int held = 0;
@@ -519,14 +559,14 @@ public final class OracleTests extends Checks {
         }
         next[m] = n;
         holds[m] = h;
-        due(at + "not " + m + " " + s, x.not(m, s), held);
-        for (int i = 0; i < 8; i++) dueSentence(at + "not " + m + " " + s, i);
+        due(at + "not " + m + " " + s, x().not(m, s), held);
+        for (int i : new int[] {m, s, chance.nextInt(8)}) dueSentence(at + "not " + m + " " + s, i);
     }
 
     private void dueSentence(String what, int s) {
         for (int p = 0; p < 6; p++) {
-            for (int c = 0; c < k; c++) due(what + " about " + s + p + c, x.about(s, p, c), next[s][p][c]);
-            due(what + " holds " + s + p, x.about(s, p, k), holds[s][p] ? 1 : 0);
+            for (int c = 0; c < k; c++) due(what + " about " + s + p + c, x().about(s, p, c), next[s][p][c]);
+            due(what + " holds " + s + p, x().about(s, p, k), holds[s][p] ? 1 : 0);
         }
     }
 }

@@ -37,7 +37,7 @@ public final class RuleTests extends Checks {
         face();
         text();
         whatARunMakes();
-        for (long seed = 1; seed <= 300; seed++) anyCalls(seed);
+        for (long seed = 1; seed <= 200; seed++) anyCalls(seed);
         finish("rules");
     }
 
@@ -166,39 +166,68 @@ public final class RuleTests extends Checks {
         x.count(1);
     }
 
+    /** Ten turns of some 45 calls each for one object: no more than is promised. */
+    private static final int TURNS = 10, TURNED = 20;
+
+    private static void turn(AnyLength[] all, int from) {
+        for (int i = 0; i < TURNED * TURNS; i++) allCalls(all[from + i / TURNS], i);
+    }
+
     private static void whatARunMakes() {
-        AnyLength x = new AnyLength();
-        for (int i = 0; i < 200; i++) allCalls(x, i);
         long before = bytesMade();
-        AnyLength[] many = new AnyLength[100];
-        for (int i = 0; i < 100; i++) many[i] = new AnyLength();
-        long each = (bytesMade() - before) / 100;
-        check("an object is small: " + each, each < 64000 && many[99] != null);
+        AnyLength[] all = new AnyLength[2 * TURNED];
+        for (int i = 0; i < all.length; i++) all[i] = new AnyLength();
+        long each = (bytesMade() - before) / all.length;
+        check("an object is small: " + each, each < 64000);
+        turn(all, 0);
         before = bytesMade();
-        for (int i = 0; i < 200; i++) allCalls(x, i);
+        turn(all, TURNED);
         long made = bytesMade() - before;
         check("calls make nothing: " + made, made < 4000);
     }
 
     // ---- any calls
 
-    private static List<Long> state(AnyLength x) {
-        List<Long> all = new ArrayList<>();
-        int k = x.count(0);
-        for (int i = 0; i < 3; i++) all.add((long) x.count(i));
-        for (int s = 0; s < 8; s++) for (int p = 0; p < 6; p++) for (int c = 0; c <= k; c++) all.add((long) x.about(s, p, c));
-        for (int s = 0; s < 4; s++) {
-            for (int p = 0; p < 6; p++) {
-                for (int c = 0; c <= k; c++) for (int w = 0; w < 2; w++) all.add((long) x.of(s, p, c, w));
-            }
+    /** A call that was made, so that it can be made again on a new object. */
+    private record Call(Method method, Object[] given) {
+        long on(AnyLength x) throws Exception {
+            return ((Number) method.invoke(x, given)).longValue();
         }
-        for (int i = 0; i < 24; i++) all.add((long) x.at(i));
-        for (int place = 0; place < 1296; place++) {
-            int was = x.sheet(place, true);
-            if (was == 0) x.sheet(place, false);
-            all.add((long) was);
+
+        String told() {
+            return method.getName() + Arrays.toString(given);
+        }
+    }
+
+    /** What is looked at takes at most 267 calls (sentences and the row, of four letters). */
+    private static final int MOST_CALLS = 512, LOOKED_AFTER = MOST_CALLS - 268;
+    private static final int PARTS = 8, PLACES = 1296, PLACES_A_PART = PLACES / (PARTS - 2);
+
+    /** One part of what can be seen: sentences and the row (0), programs (1), some of the sheet (2 and on). */
+    private static List<Integer> seen(AnyLength x, int part) {
+        List<Integer> all = new ArrayList<>();
+        int k = x.count(0);
+        all.add(k);
+        if (part == 0) {
+            for (int i = 1; i < 3; i++) all.add(x.count(i));
+            for (int i = 0; i < 24; i++) all.add(x.at(i));
+            for (int s = 0; s < 8; s++) for (int p = 0; p < 6; p++) for (int c = 0; c <= k; c++) all.add(x.about(s, p, c));
+        } else if (part == 1) {
+            for (int s = 0; s < 4; s++) {
+                for (int p = 0; p < 6; p++) {
+                    for (int c = 0; c <= k; c++) for (int w = 0; w < 2; w++) all.add(x.of(s, p, c, w));
+                }
+            }
+        } else {
+            for (int i = 0; i < PLACES_A_PART; i++) all.add(x.sheet((part - 2) * PLACES_A_PART + i, true));
         }
         return all;
+    }
+
+    private static AnyLength behind(List<Call> calls) throws Exception {
+        AnyLength x = new AnyLength();
+        for (Call call : calls) call.on(x);
+        return x;
     }
 
     private static final List<String> CHANGE = List.of("letters", "point", "holds", "make", "not", "both", "spot",
@@ -219,7 +248,8 @@ public final class RuleTests extends Checks {
         for (Method m : AnyLength.class.getDeclaredMethods()) if (Modifier.isPublic(m.getModifiers())) face.add(m);
         face.sort((a, b) -> a.getName().compareTo(b.getName()));
         AnyLength x = new AnyLength();
-        for (int call = 0; call < 512; call++) {
+        List<Call> made = new ArrayList<>();
+        while (made.size() < MOST_CALLS) {
             Method m = face.get(chance.nextInt(face.size()));
             if (m.getName().equals("letters") && chance.nextInt(8) > 0) continue;
             if (m.getName().equals("clear") && chance.nextInt(4) > 0) continue;
@@ -229,22 +259,35 @@ public final class RuleTests extends Checks {
                 given[i] = type == boolean.class ? (Object) chance.nextBoolean()
                     : type == long.class ? (Object) (long) number(chance) : (Object) number(chance);
             }
-            oneCall(x, m, given, chance.nextInt(10) == 0);
+            Call call = new Call(m, given);
+            long answer = answer(x, call);
+            boolean look = made.size() < LOOKED_AFTER && chance.nextInt(10) == 0;
+            if (look && keeps(m.getName(), answer)) changesNothing(made, call, chance.nextInt(PARTS));
+            made.add(call);
         }
     }
 
-    private static void oneCall(AnyLength x, Method m, Object[] given, boolean look) throws Exception {
-        String told = m.getName() + Arrays.toString(given);
-        List<Long> before = look ? state(x) : null;
+    private static long answer(AnyLength x, Call call) throws Exception {
         try {
-            long answer = ((Number) m.invoke(x, given)).longValue();
-            check(told + " answered " + answer, answer >= -4 || answer == -9);
-            if (!look) return;
-            boolean keeps = !CHANGE.contains(m.getName()) || answer < -1 || answer == -1 && !m.getName().equals("end");
-            if (m.getName().equals("lay") && answer == -9) keeps = false;
-            if (keeps) check(told + " answered " + answer + " and changed something", before.equals(state(x)));
+            long answer = call.on(x);
+            check(call.told() + " answered " + answer, answer >= -4 || answer == -9);
+            return answer;
         } catch (InvocationTargetException e) {
-            check(told + " threw " + e.getCause(), false);
+            check(call.told() + " threw " + e.getCause(), false);
+            return 0;
         }
+    }
+
+    private static boolean keeps(String name, long answer) {
+        if (!CHANGE.contains(name)) return true;
+        if (name.equals("lay") && answer == -9) return false;
+        return answer < -1 || answer == -1 && !name.equals("end");
+    }
+
+    private static void changesNothing(List<Call> made, Call call, int part) throws Exception {
+        List<Integer> before = seen(behind(made), part);
+        AnyLength x = behind(made);
+        call.on(x);
+        check(call.told() + " changed something", before.equals(seen(x, part)));
     }
 }
