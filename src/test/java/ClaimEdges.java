@@ -233,6 +233,21 @@ final class ClaimEdges extends Edges {
         due("of one program 6 leads to 6", x.check(0, 0, -1, 0), 0);
     }
 
+    /** The last point is not left, so a second spot that were 0 behind a letter would lead from 13 to 1. */
+    @Says("(Of one PROGRAM the second SPOT is never moved.)")
+    static void ofOneProgramTheSecondSpotIsNotSetTo0Either() {
+        AnyLength x = new AnyLength();
+        for (int c = 0; c < 2; c++) x.point(1, 1, c, 1);
+        x.sheet(0, true);
+        x.sheet(13, true);
+        due("13 leads to 13", x.check(0, 0, -1, 1), 0);
+        x.sheet(13, false);
+        x.sheet(1 + 6 * 5, true);
+        due("31 leads to 31", x.check(0, 0, -1, 1), 0);
+        x.holds(1, 1, false);
+        due("31 is bad by its last point", x.check(0, 0, -1, 1), 3);
+    }
+
     @Says("MET are PLACES at which any ROW is (whether it IS SO or not).")
     static void placesOfRowsThatAreNotSoAreMetToo() {
         AnyLength x = new AnyLength();
